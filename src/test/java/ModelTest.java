@@ -72,12 +72,14 @@ public final class ModelTest {
     private void draw() {
         int used = graph % 2 == 0 ? 1 + pick(NODES) : 4 + pick(6);
         int backward = pick(8);
-        for (int n = 0; n < used; n++) {
+        int[] name = names();
+        for (int place = 0; place < used; place++) {
+            int n = name[place];
             int kind = pick(6);
             acts[n] = new int[] {kind, pick(VARIABLES), pick(kind == 3 ? VARIABLES : 16)};
             int end = pick(12);
-            int x = aim(n, used, backward);
-            int y = pick(8) == 0 ? x : aim(n, used, backward);
+            int x = name[aim(place, used, backward)];
+            int y = pick(8) == 0 ? x : name[aim(place, used, backward)];
             ends[n] = new int[] {end == 0 ? 0 : end < 4 ? 1 : 2, pick(VARIABLES), x, y};
             due("act", shaper.act(n, acts[n][0], acts[n][1], acts[n][2]) ? 1 : 0, 1);
             due("end", shaper.end(n, ends[n][0], ends[n][1], ends[n][2], ends[n][3]) ? 1 : 0, 1);
@@ -93,12 +95,23 @@ public final class ModelTest {
         }
     }
 
+    /** The nodes in any order behind node 0, so that no answer can come from the order of their names. */
+    private static int[] names() {
+        int[] name = new int[NODES];
+        for (int n = 1; n < NODES; n++) {
+            int other = 1 + pick(n);
+            name[n] = name[other];
+            name[other] = n;
+        }
+        return name;
+    }
+
     /** Mostly onward and near, so that many graphs are straight and deep. */
-    private static int aim(int node, int used, int backward) {
-        if (pick(8) < backward || node == used - 1) {
+    private static int aim(int place, int used, int backward) {
+        if (pick(8) < backward || place == used - 1) {
             return pick(used);
         }
-        return Math.min(used - 1, node + 1 + pick(3));
+        return Math.min(used - 1, place + 1 + pick(3));
     }
 
     // The terms.

@@ -455,6 +455,13 @@ public final class PromiseTest {
         does(far, 3, SET, 2, 9);
         due("members bring their edges", far.merges(2), 2 + 64);
         due("without a change nothing merges", far.merges(1), 0);
+        GraphShaper two = diamond();
+        test(two, 3, 0, 4, 5);
+        go(two, 4, 6);
+        go(two, 5, 6);
+        does(two, 1, SET, 0, 1);
+        does(two, 5, ADD, 0, 1);
+        due("two changes", two.merges(0), 8 + 64);
     }
 
     // Promise 12.
@@ -485,6 +492,8 @@ public final class PromiseTest {
         due("TEST", g.live(0), 8);
         does(g, 0, ADD, 3, 1);
         due("TEST behind an ADD", g.live(0), 2 + 8);
+        does(g, 0, TELL, 0, 0);
+        due("TELL and TEST", g.live(0), 1 + 2 + 8);
         does(g, 0, NOTHING, 0, 0);
         test(g, 0, 3, 2, 2);
         due("TEST with one successor", g.live(0), 8);
@@ -568,6 +577,27 @@ public final class PromiseTest {
         due("a sum of 0", after.known(1, 0), 0);
         does(after, 0, READ, 0, 0);
         due("no value is learnt from a TEST", after.known(1, 0), 16);
+        longestWay();
+    }
+
+    /** A chain against the order of the nodes' names and around again. */
+    private static void longestWay() {
+        GraphShaper g = new GraphShaper();
+        go(g, 0, 15);
+        for (int n = 15; n > 1; n--) {
+            go(g, n, n - 1);
+            does(g, n, ADD, 0, 1);
+        }
+        due("known at the end", g.known(1, 0), 14);
+        due("chief at the end", g.chief(1), 2);
+        due("tail at the beginning", g.tail(0), 15);
+        does(g, 1, TELL, 3, 0);
+        due("live at the beginning", g.live(0), 1 + 8);
+        go(g, 1, 0);
+        due("known in a ring", g.known(15, 0), 16);
+        due("known in a ring at its end", g.known(1, 0), 16);
+        due("others are known", g.known(1, 3), 0);
+        due("the ring is a loop", g.set(0, 2), 65535);
     }
 
     // Promises 14 and 15.
@@ -625,6 +655,7 @@ public final class PromiseTest {
         does(g, 1, TELL, 0, 0);
         test(g, 0, 0, 2, 1);
         go(g, 1, 0);
+        code("README's example", g, 16, 0, 48, 2, 128, 64, 1, 96, 80, 80);
         due("run to the STOP", g.run(0x321L, 1000), 8);
         due("told last", g.ran(2), 3);
         due("exactly enough steps", g.run(0x321L, 8), 8);
