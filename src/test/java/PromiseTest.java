@@ -2,32 +2,7 @@
  * For each promise of the document: ordinary inputs, the edges that it names, and wrong inputs,
  * with answers worked out by hand.
  */
-public final class PromiseTest {
-    private static final int NOTHING = 0;
-    private static final int SET = 1;
-    private static final int ADD = 2;
-    private static final int COPY = 3;
-    private static final int TELL = 4;
-    private static final int READ = 5;
-    private static final int STOP = 0;
-    private static final int GO = 1;
-    private static final int TEST = 2;
-    private static final int[] WRONG_NODES = {-1, 16, 17, 32, -16, Integer.MIN_VALUE, Integer.MAX_VALUE};
-    private static final int[] WRONG_VARIABLES = {-1, 4, 5, 32, Integer.MIN_VALUE, Integer.MAX_VALUE};
-
-    private static int wrong = 0;
-
-    private static void due(String what, long got, long want) {
-        if (got != want) {
-            wrong++;
-            System.out.println(what + " answered " + got + ", due is " + want);
-        }
-    }
-
-    private static void due(String what, boolean got, boolean want) {
-        due(what, got ? 1 : 0, want ? 1 : 0);
-    }
-
+public final class PromiseTest extends Checks {
     public static void main(String[] args) {
         newObject();
         act();
@@ -51,61 +26,7 @@ public final class PromiseTest {
         ran();
         oneSuccessor();
         answersFollowChanges();
-        System.out.println(wrong == 0 ? "all answers are as due" : wrong + " answers are not as due");
-        if (wrong != 0) {
-            System.exit(1);
-        }
-    }
-
-    private static void go(GraphShaper g, int node, int x) {
-        due("end(" + node + ", GO " + x + ")", g.end(node, GO, 0, x, 0), true);
-    }
-
-    private static void test(GraphShaper g, int node, int v, int x, int y) {
-        due("end(" + node + ", TEST " + v + " " + x + " " + y + ")", g.end(node, TEST, v, x, y), true);
-    }
-
-    private static void does(GraphShaper g, int node, int kind, int v, int c) {
-        due("act(" + node + ", " + kind + ", " + v + ", " + c + ")", g.act(node, kind, v, c), true);
-    }
-
-    private static void code(String what, GraphShaper g, int... want) {
-        due(what + " words()", g.words(), want.length);
-        for (int k = 0; k < want.length; k++) {
-            due(what + " word(" + k + ")", g.word(k), want[k]);
-        }
-        due(what + " word behind the last", g.word(want.length), -1);
-        due(what + " word(-1)", g.word(-1), -1);
-        due(what + " word(MAX)", g.word(Integer.MAX_VALUE), -1);
-        due(what + " word(MIN)", g.word(Integer.MIN_VALUE), -1);
-    }
-
-    /** 0 tests to 1 and 2, both go to 3, which stops. */
-    private static GraphShaper diamond() {
-        GraphShaper g = new GraphShaper();
-        test(g, 0, 0, 1, 2);
-        go(g, 1, 3);
-        go(g, 2, 3);
-        return g;
-    }
-
-    /** A loop 1 2 3 with a loop 2 inside it, from 0, left from 3 to 4. */
-    private static GraphShaper loops() {
-        GraphShaper g = new GraphShaper();
-        go(g, 0, 1);
-        go(g, 1, 2);
-        test(g, 2, 0, 2, 3);
-        test(g, 3, 1, 1, 4);
-        return g;
-    }
-
-    /** 0 tests to 1 and 2, which go to each other; 2 may stop at 3. */
-    private static GraphShaper crooked() {
-        GraphShaper g = new GraphShaper();
-        test(g, 0, 0, 1, 2);
-        go(g, 1, 2);
-        test(g, 2, 1, 1, 3);
-        return g;
+        finish();
     }
 
     // Promise 1.
@@ -155,10 +76,10 @@ public final class PromiseTest {
         g.run(0x7L, 1000);
         due("variables after other acts", g.ran(0), 1 + 256 * 7 + 4096);
         does(g, 0, NOTHING, -5, 99);
-        does(g, 1, NOTHING, Integer.MIN_VALUE, Integer.MAX_VALUE);
+        does(g, 1, NOTHING, MIN, MAX);
         does(g, 3, TELL, 2, -1);
         does(g, 4, READ, 3, 1 << 30);
-        does(g, 5, TELL, 3, Integer.MIN_VALUE);
+        does(g, 5, TELL, 3, MIN);
         g.run(0x9L, 1000);
         due("variables where numbers are not looked at", g.ran(0), 4096 * 9);
         due("latest told", g.ran(2), 9);
@@ -172,7 +93,7 @@ public final class PromiseTest {
             due("act of node " + node, g.act(node, SET, 0, 0), false);
             due("act 0 of node " + node, g.act(node, NOTHING, 0, 0), false);
         }
-        for (int kind : new int[] {-1, 6, 7, 16, Integer.MIN_VALUE, Integer.MAX_VALUE}) {
+        for (int kind : new int[] {-1, 6, 7, 16, MIN, MAX}) {
             due("act of kind " + kind, g.act(0, kind, 0, 0), false);
         }
         for (int v : WRONG_VARIABLES) {
@@ -180,11 +101,11 @@ public final class PromiseTest {
                 due("act " + kind + " of variable " + v, g.act(0, kind, v, 0), false);
             }
         }
-        for (int c : new int[] {-1, 16, 17, Integer.MIN_VALUE, Integer.MAX_VALUE}) {
+        for (int c : new int[] {-1, 16, 17, MIN, MAX}) {
             due("SET to " + c, g.act(0, SET, 0, c), false);
             due("ADD of " + c, g.act(0, ADD, 0, c), false);
         }
-        for (int c : new int[] {-1, 4, 15, 16, Integer.MIN_VALUE, Integer.MAX_VALUE}) {
+        for (int c : new int[] {-1, 4, 15, 16, MIN, MAX}) {
             due("COPY of " + c, g.act(0, COPY, 0, c), false);
         }
         g.run(0L, 1);
@@ -222,7 +143,7 @@ public final class PromiseTest {
             due("TEST to x " + node, g.end(0, TEST, 0, node, 0), false);
             due("TEST to y " + node, g.end(0, TEST, 0, 0, node), false);
         }
-        for (int kind : new int[] {-1, 3, 4, Integer.MIN_VALUE, Integer.MAX_VALUE}) {
+        for (int kind : new int[] {-1, 3, 4, MIN, MAX}) {
             due("end of kind " + kind, g.end(0, kind, 0, 0, 0), false);
         }
         for (int v : WRONG_VARIABLES) {
@@ -327,7 +248,7 @@ public final class PromiseTest {
         for (int node : WRONG_NODES) {
             due("set(" + node + ", 0)", g.set(node, 0), -1);
         }
-        for (int what : new int[] {-1, 3, 4, Integer.MIN_VALUE, Integer.MAX_VALUE}) {
+        for (int what : new int[] {-1, 3, 4, MIN, MAX}) {
             due("set(0, " + what + ")", g.set(0, what), -1);
         }
     }
@@ -672,7 +593,7 @@ public final class PromiseTest {
         due("variables are 0", g.ran(0), 0);
         g.run(0x5L, 1);
         due("one step", g.ran(0), 5);
-        for (int limit : new int[] {-1, 1001, Integer.MIN_VALUE, Integer.MAX_VALUE}) {
+        for (int limit : new int[] {-1, 1001, MIN, MAX}) {
             due("limit " + limit, g.run(0L, limit), -1);
         }
         due("a refused run changes nothing", g.ran(0), 5);
@@ -713,7 +634,7 @@ public final class PromiseTest {
         }
         due("last node", g.ran(10), 1);
         due("not stopped", g.ran(11), 0);
-        for (int what : new int[] {-1, 12, 13, Integer.MIN_VALUE, Integer.MAX_VALUE}) {
+        for (int what : new int[] {-1, 12, 13, MIN, MAX}) {
             due("ran(" + what + ")", g.ran(what), -1);
         }
         does(g, 0, SET, 1, 9);
