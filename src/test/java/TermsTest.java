@@ -669,6 +669,15 @@ public final class TermsTest extends Checks {
         GraphShaper copied = diamond();
         does(copied, 1, COPY, 0, 3);
         due("what is copied is not changed", copied.merges(3), 0);
+        // Two diamonds, one behind the other, with a change in each: neither edge brings the other.
+        GraphShaper two = diamond();
+        test(two, 3, 0, 4, 5);
+        go(two, 4, 6);
+        go(two, 5, 6);
+        does(two, 1, READ, 0, 0);
+        due("the first alone", two.merges(0), 8);
+        does(two, 5, ADD, 0, 1);
+        due("all nodes whose act changes it", two.merges(0), 8 + 64);
     }
 
     private static void mergeMembers() {
@@ -725,6 +734,13 @@ public final class TermsTest extends Checks {
         due("all variables", g.live(0), 15);
         stop(g, 1);
         due("behind a STOP there is no way", g.live(1), 4);
+        go(g, 1, 0);
+        due("by a way through node 0", g.live(1), 15);
+        GraphShaper longest = chain(15);
+        does(longest, 15, TELL, 2, 0);
+        for (int n = 0; n < 16; n++) {
+            due("by the longest way: live(" + n + ")", longest.live(n), 4);
+        }
     }
 
     private static void replacements() {
