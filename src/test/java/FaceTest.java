@@ -4,8 +4,12 @@ import java.lang.reflect.Method;
 import java.lang.reflect.Modifier;
 import java.nio.file.Files;
 import java.nio.file.Path;
+import java.util.Map;
 import java.util.Set;
+import java.util.TreeMap;
 import java.util.TreeSet;
+import java.util.regex.Matcher;
+import java.util.regex.Pattern;
 
 /** The public face of the document, and those rules of LANGUAGE.md that members and words can show. */
 public final class FaceTest {
@@ -18,6 +22,9 @@ public final class FaceTest {
         "import", "package", "String", "Math", "Integer", "System", "Arrays", "Object", "float", "double",
         "null", "throw", "throws", "try", "catch", "synchronized", "assert", "instanceof", "protected",
         "interface", "enum", "record", "->", "::", "[][]"};
+
+    private static final int MOST_LINES = 60;
+    private static final int MOST_CALLS_DEEP = 6;
 
     private static int wrong = 0;
 
@@ -37,7 +44,12 @@ public final class FaceTest {
             && GraphShaper.class.getConstructors()[0].getParameterCount() == 0);
         methods();
         fields();
-        words();
+        String source = Files.readString(Path.of("src/main/java/GraphShaper.java"));
+        String bare = source.replaceAll("(?s)/\\*.*?\\*/", " ").replaceAll("//[^\n]*", " ");
+        words(bare);
+        Map<String, String> bodies = bodies(bare);
+        check("every method's text is found: " + bodies.keySet(), bodies.keySet().equals(declared()));
+        calls(bodies);
         System.out.println(wrong == 0 ? "the face is as due" : wrong + " things are not as due");
         if (wrong != 0) {
             System.exit(1);
@@ -88,17 +100,83 @@ public final class FaceTest {
         check("at most forty fields: " + held, held <= 40);
     }
 
-    private static void words() throws IOException {
-        String source = Files.readString(Path.of("src/main/java/GraphShaper.java"));
-        String bare = source.replaceAll("(?s)/\\*.*?\\*/", " ").replaceAll("//[^\n]*", " ");
+    private static void words(String bare) {
         for (String word : FORBIDDEN) {
             boolean letters = Character.isLetter(word.charAt(0));
-            String pattern = letters ? "\\b" + word + "\\b" : java.util.regex.Pattern.quote(word);
-            check("the source is without " + word, !java.util.regex.Pattern.compile(pattern).matcher(bare).find());
+            String pattern = letters ? "\\b" + word + "\\b" : Pattern.quote(word);
+            check("the source is without " + word, !Pattern.compile(pattern).matcher(bare).find());
         }
         for (String line : bare.split("\n")) {
             check("an array is made in a field alone: " + line.strip(),
                 !line.contains("new ") || line.startsWith("    private final "));
         }
+    }
+
+    /** The constructor among them. */
+    private static Set<String> declared() {
+        Set<String> names = new TreeSet<>(Set.of(GraphShaper.class.getName()));
+        for (Method m : GraphShaper.class.getDeclaredMethods()) {
+            names.add(m.getName());
+        }
+        return names;
+    }
+
+    /** The texts of the methods, by their names: no two have the same. */
+    private static Map<String, String> bodies(String bare) {
+        Map<String, String> found = new TreeMap<>();
+        Matcher m = Pattern.compile("(?ms)^    [a-z][a-z ]* (\\w+)\\([^)]*\\) \\{\n(.*?)^    \\}").matcher(bare);
+        while (m.find()) {
+            check("one method alone is named " + m.group(1), found.put(m.group(1), m.group(2)) == null);
+        }
+        return found;
+    }
+
+    private static void calls(Map<String, String> bodies) {
+        Map<String, Set<String>> called = new TreeMap<>();
+        for (String name : bodies.keySet()) {
+            String body = bodies.get(name);
+            check(name + " is short", body.split("\n").length <= MOST_LINES);
+            called.put(name, calledIn(body, bodies.keySet(), name));
+        }
+        for (String name : called.keySet()) {
+            check("calls from " + name + " go at most six deep, and never back", deep(name, called, 1));
+        }
+    }
+
+    private static Set<String> calledIn(String body, Set<String> methods, String name) {
+        Set<String> found = new TreeSet<>();
+        Matcher m = Pattern.compile("(\\w+)\\(").matcher(body);
+        while (m.find()) {
+            if (methods.contains(m.group(1))) {
+                found.add(m.group(1));
+                String arguments = arguments(body, m.end());
+                check(name + " has no call in the arguments of another: " + arguments,
+                    !Pattern.compile("\\w\\(").matcher(arguments).find());
+            }
+        }
+        return found;
+    }
+
+    private static String arguments(String body, int from) {
+        int open = 1;
+        int at = from;
+        while (open > 0) {
+            char c = body.charAt(at++);
+            open += c == '(' ? 1 : c == ')' ? -1 : 0;
+        }
+        return body.substring(from, at - 1);
+    }
+
+    /** A call that comes back to its own method is found too, as it goes deeper without an end. */
+    private static boolean deep(String name, Map<String, Set<String>> called, int depth) {
+        if (depth > MOST_CALLS_DEEP) {
+            return false;
+        }
+        for (String next : called.get(name)) {
+            if (!deep(next, called, depth + 1)) {
+                return false;
+            }
+        }
+        return true;
     }
 }

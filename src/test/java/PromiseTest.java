@@ -576,6 +576,8 @@ public final class PromiseTest extends Checks {
         does(g, 1, TELL, 0, 0);
         test(g, 0, 0, 2, 1);
         go(g, 1, 0);
+        due("README's example straight()", g.straight(), true);
+        due("README's example head(1)", g.head(1), 0);
         code("README's example", g, 16, 0, 48, 2, 128, 64, 1, 96, 80, 80);
         due("run to the STOP", g.run(0x321L, 1000), 8);
         due("told last", g.ran(2), 3);
